@@ -17,21 +17,15 @@ public final class SameBench {
     private final Net[] nets = new Net[GRAPHS];
     private final History history = new History();
     private final Shown shown = new Shown();
-    private final Shown otherShown = new Shown();
     private final Splitter splitter = new Splitter();
     private final Tree tree = new Tree(splitter);
     private final Turner turner = new Turner(splitter);
-    private final Parting firstParting = new Parting();
-    private final Parting secondParting = new Parting();
-    private final Name firstName = new Name();
-    private final Name secondName = new Name();
+    private final Comparer comparer = new Comparer(splitter, tree);
 
     private boolean isParted;
     private final Shown partedThings = new Shown();
     private final Parting parting = new Parting();
     private final Name nameAtHand = new Name();
-    private final int[] difference = new int[3];
-    private boolean isToldApart;
     private final Turning turning = new Turning();
     private final Turning[] makersFound = new Turning[MOST];
     private int makerCount;
@@ -219,35 +213,23 @@ public final class SameBench {
     public int same(int graph, int other) {
         if (!isGraph(graph) || !isGraph(other)) return BAD;
         if (!nets[graph].isRight() || !nets[other].isRight()) return NOT;
-        shown.take(nets[graph]);
-        otherShown.take(nets[other]);
-        if (!findBothNames()) return FULL;
-        if (firstName.differsAt(secondName) >= 0) return 0;
-        turning.begin();
-        for (int p = 0; p < firstName.things; p++) turning.to[firstName.order[p]] = secondName.order[p];
+        comparer.take(nets[graph], nets[other]);
+        if (!comparer.findNames()) return FULL;
+        if (!comparer.isOneName()) return 0;
+        turning.takeOrders(comparer.firstName, comparer.secondName);
         return 1;
     }
 
     public int unlike(int graph, int other) {
         if (!isGraph(graph) || !isGraph(other)) return BAD;
         if (!nets[graph].isRight() || !nets[other].isRight()) return NOT;
-        shown.take(nets[graph]);
-        otherShown.take(nets[other]);
-        if (shown.things != otherShown.things) {
-            tellApart(0, shown.things, otherShown.things);
-            return 1;
-        }
-        splitter.begin(firstParting, shown);
-        splitter.begin(secondParting, otherShown);
-        if (isToldByKeys()) return 2;
-        if (isToldByHeaps()) return 3;
-        if (!findBothNames()) return FULL;
-        return isToldByNames() ? 4 : 0;
+        comparer.take(nets[graph], nets[other]);
+        return comparer.tellApart();
     }
 
     public int why(int what) {
-        if (!isToldApart || !isBelow(what, difference.length)) return BAD;
-        return difference[what];
+        if (!comparer.isToldApart || !isBelow(what, comparer.difference.length)) return BAD;
+        return comparer.difference[what];
     }
 
     // ---- 3 turnings
@@ -357,47 +339,6 @@ public final class SameBench {
         if (!nets[graph].isRight()) return NOT;
         shown.take(nets[graph]);
         return 0;
-    }
-
-    private boolean findBothNames() {
-        return tree.findName(shown, firstName) && tree.findName(otherShown, secondName);
-    }
-
-    private void tellApart(int at, int first, int second) {
-        difference[0] = at;
-        difference[1] = first;
-        difference[2] = second;
-        isToldApart = true;
-    }
-
-    private boolean isToldByKeys() {
-        for (int p = 0; p < shown.things; p++) {
-            int first = shown.keys[firstParting.order[p]];
-            int second = otherShown.keys[secondParting.order[p]];
-            if (first != second) {
-                tellApart(p, first, second);
-                return true;
-            }
-        }
-        return false;
-    }
-
-    private boolean isToldByHeaps() {
-        int heaps = Math.min(firstParting.heaps, secondParting.heaps);
-        for (int h = 0; h < heaps; h++) {
-            if (firstParting.size[h] != secondParting.size[h]) {
-                tellApart(h, firstParting.size[h], secondParting.size[h]);
-                return true;
-            }
-        }
-        return false;
-    }
-
-    private boolean isToldByNames() {
-        int at = firstName.differsAt(secondName);
-        if (at < 0) return false;
-        tellApart(at, firstName.row[at], secondName.row[at]);
-        return true;
     }
 
     private static Parting[] makePartings(int count) {
@@ -809,7 +750,6 @@ public final class SameBench {
         boolean findName(Shown things, Name found) {
             shown = things;
             name = found;
-            name.isThere = false;
             name.things = shown.things;
             name.length = 1 + shown.things + shown.things * shown.things;
             name.leaves = 0;
@@ -827,15 +767,15 @@ public final class SameBench {
             }
         }
 
+        // Each mark makes a heap more: a node as deep as there may be things is a leaf.
         private static void grow(Tree tree, int depth) {
-            if (depth > MOST) return;
             Parting node = tree.levels[depth];
             tree.name.nodes++;
             if (node.isAllAlone()) {
                 tree.addLeaf(node);
                 return;
             }
-            if (depth == MOST) return;
+            if (depth >= MOST) return;
             int target = node.firstBigHeap();
             Parting next = tree.levels[depth + 1];
             for (int x = 0; x < node.things && tree.name.leaves <= MOST_LEAVES; x++) {
@@ -876,6 +816,89 @@ public final class SameBench {
         }
     }
 
+    /** Two graphs side by side, and what told two apart latest. */
+    private static final class Comparer {
+        final Splitter splitter;
+        final Tree tree;
+        final Shown first = new Shown();
+        final Shown second = new Shown();
+        final Parting firstParting = new Parting();
+        final Parting secondParting = new Parting();
+        final Name firstName = new Name();
+        final Name secondName = new Name();
+        final int[] difference = new int[3];
+        boolean isToldApart;
+
+        Comparer(Splitter splitter, Tree tree) {
+            this.splitter = splitter;
+            this.tree = tree;
+        }
+
+        void take(Net net, Net other) {
+            first.take(net);
+            second.take(other);
+        }
+
+        boolean findNames() {
+            return tree.findName(first, firstName) && tree.findName(second, secondName);
+        }
+
+        boolean isOneName() {
+            return firstName.differsAt(secondName) < 0;
+        }
+
+        /** What unlike() answers. */
+        int tellApart() {
+            if (first.things != second.things) {
+                keepDifference(0, first.things, second.things);
+                return 1;
+            }
+            splitter.begin(firstParting, first);
+            splitter.begin(secondParting, second);
+            if (isToldByKeys()) return 2;
+            if (isToldByHeaps()) return 3;
+            if (!findNames()) return FULL;
+            return isToldByNames() ? 4 : 0;
+        }
+
+        void keepDifference(int at, int ofFirst, int ofSecond) {
+            difference[0] = at;
+            difference[1] = ofFirst;
+            difference[2] = ofSecond;
+            isToldApart = true;
+        }
+
+        boolean isToldByKeys() {
+            for (int p = 0; p < first.things; p++) {
+                int ofFirst = first.keys[firstParting.order[p]];
+                int ofSecond = second.keys[secondParting.order[p]];
+                if (ofFirst != ofSecond) {
+                    keepDifference(p, ofFirst, ofSecond);
+                    return true;
+                }
+            }
+            return false;
+        }
+
+        boolean isToldByHeaps() {
+            int heaps = Math.min(firstParting.heaps, secondParting.heaps);
+            for (int h = 0; h < heaps; h++) {
+                if (firstParting.size[h] != secondParting.size[h]) {
+                    keepDifference(h, firstParting.size[h], secondParting.size[h]);
+                    return true;
+                }
+            }
+            return false;
+        }
+
+        boolean isToldByNames() {
+            int at = firstName.differsAt(secondName);
+            if (at < 0) return false;
+            keepDifference(at, firstName.row[at], secondName.row[at]);
+            return true;
+        }
+    }
+
     /** What things go to, by their numbers; -1: that thing is not in it. */
     private static final class Turning {
         boolean isThere;
@@ -884,6 +907,12 @@ public final class SameBench {
         void begin() {
             isThere = true;
             for (int i = 0; i < MOST; i++) to[i] = NONE;
+        }
+
+        /** What takes the things of one name, in their order, to those of another one. */
+        void takeOrders(Name first, Name second) {
+            begin();
+            for (int p = 0; p < first.things; p++) to[first.order[p]] = second.order[p];
         }
 
         /** Takes the turning of shown things that stands in a row from a place on. */
