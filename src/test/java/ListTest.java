@@ -71,10 +71,10 @@ public final class ListTest {
     private static void byNames() {
         for (int n = 1; n <= 5; n++) {
             for (int m = 0; m < MANY[n - 1].length; m++) {
-                SameBench x = new SameBench();
-                int many = x.list(n, m);
                 String before = "";
-                for (int i = 0; i < many; i++) {
+                for (int i = 0; i < MANY[n - 1][m]; i++) {
+                    SameBench x = new SameBench();
+                    x.list(n, m);
                     x.listed(i, 0);
                     x.name(0);
                     StringBuilder name = new StringBuilder();
