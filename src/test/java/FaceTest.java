@@ -30,7 +30,11 @@ public final class FaceTest {
         Check check = new Check();
         face(check);
         constants(check);
-        words(check, Files.readString(Path.of("src/main/java/SameBench.java")));
+        String source = Files.readString(Path.of("src/main/java/SameBench.java"));
+        sizes(check);
+        methodLengths(check, source);
+        words(check, source);
+        limitOfLeaves(check, source);
         check.end("FaceTest");
     }
 
@@ -77,6 +81,46 @@ public final class FaceTest {
         }
         Collections.sort(names);
         check.same("the fields that are not private", names, List.of("BAD", "FULL", "NOT"));
+    }
+
+    /** Rule 11: at most seven parameters, and some twenty fields beside the constants. */
+    private static void sizes(Check check) {
+        List<Class<?>> classes = new ArrayList<>(List.of(SameBench.class.getDeclaredClasses()));
+        classes.add(SameBench.class);
+        for (Class<?> one : classes) {
+            int fields = 0;
+            for (Field field : one.getDeclaredFields()) if (!Modifier.isStatic(field.getModifiers())) fields++;
+            check.due("more than 20 fields: " + one, fields > 20 ? 1 : 0, 0);
+            for (Method method : one.getDeclaredMethods()) {
+                check.due("more than 7 parameters: " + method, method.getParameterCount() > 7 ? 1 : 0, 0);
+            }
+        }
+    }
+
+    /** Rule 11: a method ends with the brace that stands under its first sign. */
+    private static void methodLengths(Check check, String source) {
+        String[] lines = source.split("\n");
+        int methods = 0;
+        for (int k = 0; k < lines.length; k++) {
+            if (!isMethodHead(lines[k])) continue;
+            String end = lines[k].replaceAll("\\S.*", "") + "}";
+            int last = k;
+            while (last < lines.length - 1 && !lines[last].equals(end)) last++;
+            check.due("more than 60 lines: " + lines[k].trim(), last - k + 1 > 60 ? 1 : 0, 0);
+            methods++;
+        }
+        check.due("there are methods", methods > 34 ? 1 : 0, 1);
+    }
+
+    private static boolean isMethodHead(String line) {
+        if (line.matches(" +(if|for|while|switch) .*")) return false;
+        return line.matches(" +(public |private |static )*\\w+(\\[\\])? ?\\w*\\(.*\\) \\{");
+    }
+
+    /** No net was found with 2521 to 3239 leaves: that the limit is 3000, only the source tells. */
+    private static void limitOfLeaves(Check check, String source) {
+        check.due("MOST_LEAVES is 3000", source.contains(" MOST_LEAVES = 3000;") ? 1 : 0, 1);
+        check.due("3000 are not too many", source.contains("isThere = name.leaves <= MOST_LEAVES;") ? 1 : 0, 1);
     }
 
     /** Rule 6, 4 and 13, as far as words tell. */
